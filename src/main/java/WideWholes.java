@@ -2,9 +2,9 @@
  * Whole numbers of up to 384 bits in slots, ratios of them in lowest terms, and a tape and a text
  * by which they come and go. README.md tells how to use it.
  *
- * <p>All rows are made by the constructor: no call makes an object. A call reckons into a row of
- * its own first and gives a slot its new whole last, so a refusal changes nothing, and a slot that
- * gets something may be one of those that are asked.
+ * <p>All rows are made by the constructor: no call makes an object, but out its exception. A call
+ * reckons into a row of its own first and gives a slot its new whole last, so a refusal changes
+ * nothing, and a slot that gets something may be one of those that are asked.
  */
 public final class WideWholes {
     public static final int BAD = -1, ZERO = -2, STATE = -3, NONE = -4, FULL = -5, WRONG = -10;
@@ -58,10 +58,12 @@ public final class WideWholes {
         }
         tape = new Tape();
         text = new Text();
-        division = new Division();
-        powers = new Powers(division);
-        fractions = new Fractions(division, powers);
-        expansion = new Expansion(division);
+        Division sharedDivision = new Division();
+        Powers sharedPowers = new Powers(sharedDivision);
+        division = sharedDivision;
+        powers = sharedPowers;
+        fractions = new Fractions(sharedDivision, sharedPowers);
+        expansion = new Expansion(sharedDivision);
         firstTwos = new TwosForm();
         secondTwos = new TwosForm();
         result = new Whole();
@@ -671,20 +673,19 @@ public final class WideWholes {
             divisor = new long[ROOM + 1];
         }
 
+        /** Cut off first; the other ways are at most one step from there. */
         void divide(int way, Whole a, Whole b) {
             divideSizes(a, b);
             quotient.takeSign(a.below != b.below);
             left.takeSign(a.below);
-            boolean tooHigh = way == 1 ? !left.isZero() && left.below != b.below : way == 2 && left.below;
-            if (!tooHigh) {
-                return;
-            }
-            if (way == 2 && b.below) {
-                Whole.sum(quotient, one, quotient);
-                Whole.difference(left, b, left);
-            } else {
+            boolean lower = way == 1 && !left.isZero() && left.below != b.below || way == 2 && left.below && !b.below;
+            boolean higher = way == 2 && left.below && b.below;
+            if (lower) {
                 Whole.difference(quotient, one, quotient);
                 Whole.sum(left, b, left);
+            } else if (higher) {
+                Whole.sum(quotient, one, quotient);
+                Whole.difference(left, b, left);
             }
         }
 

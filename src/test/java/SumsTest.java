@@ -264,6 +264,16 @@ public final class SumsTest {
         BigInteger.valueOf(1000000007), Due.two(64), Due.two(127).subtract(ONE), Due.two(128).subtract(ONE),
         Due.two(128).subtract(BigInteger.valueOf(159))};
 
+    /** Slot 0 is 3, slot 1 a modulus, slots 2 to 4 the three kinds that are none. */
+    private static WideWholes withModuli() {
+        WideWholes x = new WideWholes();
+        Due.put(x, 0, 3);
+        Due.put(x, 1, 7);
+        Due.put(x, 3, -7);
+        Due.put(x, 4, Due.two(128));
+        return x;
+    }
+
     private static void rest() {
         for (BigInteger m : MODULI) {
             for (BigInteger a : SOME) {
@@ -279,11 +289,7 @@ public final class SumsTest {
                 }
             }
         }
-        WideWholes x = new WideWholes();
-        Due.put(x, 0, 3);
-        Due.put(x, 1, 7);
-        Due.put(x, 3, -7);
-        Due.put(x, 4, Due.two(128));
+        WideWholes x = withModuli();
         for (int bad : NO_SLOTS) {
             Due.due("rest: a", x.rest(bad, 1, 1, 0), -1);
             Due.due("rest: m", x.rest(0, 1, bad, 0), -1);
@@ -314,11 +320,7 @@ public final class SumsTest {
                 Due.dueSlot("inverse of " + a + " by " + m, x, 0, has ? want : a);
             }
         }
-        WideWholes x = new WideWholes();
-        Due.put(x, 0, 3);
-        Due.put(x, 1, 7);
-        Due.put(x, 3, -7);
-        Due.put(x, 4, Due.two(128));
+        WideWholes x = withModuli();
         for (int bad : NO_SLOTS) {
             Due.due("inverse: a", x.inverse(bad, 1, 0), -1);
             Due.due("inverse: m", x.inverse(0, bad, 0), -1);
