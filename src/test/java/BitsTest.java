@@ -85,9 +85,8 @@ public final class BitsTest {
     }
 
     private static void bit() {
-        WideWholes x = new WideWholes();
         for (BigInteger a : SOME) {
-            Due.put(x, 0, a);
+            WideWholes x = Due.with(a);
             for (int k = 0; k <= 450; k++) {
                 Due.due("bit " + k + " of " + a, x.bit(0, k), a.testBit(k) ? 1 : 0);
             }
@@ -97,7 +96,7 @@ public final class BitsTest {
             Due.due("the least bit", x.bit(0, Integer.MIN_VALUE), -1);
         }
         for (int bad : NO_SLOTS) {
-            Due.due("bit: a", x.bit(bad, 0), -1);
+            Due.due("bit: a", new WideWholes().bit(bad, 0), -1);
         }
     }
 
@@ -110,8 +109,7 @@ public final class BitsTest {
         Due.put(x, 23, -8);
         Due.due("length of -8", x.length(23), 4);
         for (int k = 0; k < 384; k++) {
-            Due.put(x, 0, Due.two(k));
-            Due.due("length of 2 to the power of " + k, x.length(0), k + 1);
+            Due.due("length of 2 to the power of " + k, Due.with(Due.two(k)).length(0), k + 1);
         }
         for (int bad : NO_SLOTS) {
             Due.due("length: a", x.length(bad), -1);

@@ -105,6 +105,7 @@ public final class ComesAndGoesTest {
         BigInteger wide = Due.big("123456789012345678901234567890123456789012345678901234567890");
         for (int base = 2; base <= 36; base++) {
             BigInteger value = base < 4 ? wide.shiftRight(90) : wide;
+            x = new WideWholes();
             Due.due("read in base " + base, Due.readText(x, 3, value.toString(base), base), 1);
             Due.dueSlot("read in base " + base, x, 3, value);
             Due.due("read in base " + base, Due.readText(x, 3, value.negate().toString(base), base), 1);
@@ -162,15 +163,16 @@ public final class ComesAndGoesTest {
         BigInteger[] values = {BigInteger.ONE, BigInteger.valueOf(-1), BigInteger.valueOf(Long.MIN_VALUE),
             Due.two(64), Due.two(383), Due.L, Due.L.negate(), Due.big("-1000000000000000000000000000000")};
         for (BigInteger value : values) {
-            Due.put(x, 5, value);
             for (int base = 2; base <= 36; base++) {
+                x = new WideWholes();
+                Due.put(x, 5, value);
                 String want = value.toString(base);
                 Due.due("write in base " + base, x.write(5, base), want.length());
                 Due.due("write in base " + base, Due.outText(x, want.length()), want);
                 Due.due("no byte beyond", Due.outThrows(x, want.length()), true);
             }
         }
-        Due.due("-L in base 2", x.write(5, 10), 32);
+        x = new WideWholes();
         Due.put(x, 5, Due.L.negate());
         Due.due("-L in base 2", x.write(5, 2), 385);
         for (int bad : new int[] {-1, 24, Integer.MIN_VALUE, Integer.MAX_VALUE}) {

@@ -29,9 +29,12 @@ public final class RandomRunsTest {
         Due.end();
     }
 
+    /** What is answered behind the last call of a run is free. */
     private void due(String call, long got, long want) {
         calls++;
-        Due.due(name + calls + ": " + call, got, want);
+        if (calls <= CALLS) {
+            Due.due(name + calls + ": " + call, got, want);
+        }
     }
 
     /** Mostly few slots, so that calls meet one another's wholes; now and then one that is not there. */
