@@ -16,10 +16,7 @@ final class BitsBounds {
     }
 
     private static void dueBits(int how, String a, String b, String want) {
-        WideWholes x = Due.with(a, b);
-        String call = "bits " + how + " of " + a + ", " + b;
-        Due.due(call, x.bits(how, 0, 1, 23), 1);
-        Due.dueSlot(call, x, 23, want);
+        House.gives("bits " + how + " of " + a + ", " + b, 1, want, x -> x.bits(how, 0, 1, 23), a, b);
     }
 
     private static void bits() {
@@ -42,14 +39,7 @@ final class BitsBounds {
     }
 
     private static void refusesFull(int how, String a, String b) {
-        WideWholes x = Due.with(a, b, "77");
-        String call = "bits " + how + " of " + a + ", " + b;
-        for (int c = 0; c <= 2; c++) {
-            Due.due(call + " for " + c, x.bits(how, 0, 1, c), -5);
-        }
-        Due.dueSlot(call, x, 0, a);
-        Due.dueSlot(call, x, 1, b);
-        Due.dueSlot(call, x, 2, 77);
+        House.isFull("bits " + how + " of " + a + ", " + b, (x, c) -> x.bits(how, 0, 1, c), a, b);
     }
 
     private static void bitsRefusals() {
@@ -84,10 +74,7 @@ final class BitsBounds {
     }
 
     private static void dueShift(String a, int n, String want) {
-        WideWholes x = Due.with(a);
-        Due.put(x, 23, 77);
-        Due.due("shift of " + a + " by " + n, x.shift(0, n, 23), 1);
-        Due.dueSlot("shift of " + a + " by " + n, x, 23, want);
+        House.gives("shift of " + a + " by " + n, 1, want, x -> x.shift(0, n, 23), a);
     }
 
     private static void shift() {
@@ -139,12 +126,8 @@ final class BitsBounds {
         String[][] beyond = {{"1", "384"}, {"-1", "384"}, {"1", "385"}, {"2^383", "1"}, {"-2^383", "1"}, {"L", "1"},
             {"-L", "1"}, {"2^200", "184"}, {"1", "1000"}, {"-1", "1000"}, {"L", "1000"}, {"1", "416"}, {"1", "832"}};
         for (String[] row : beyond) {
-            WideWholes x = Due.with(row[0], "77");
-            String call = "shift of " + row[0] + " by " + row[1];
-            Due.due(call, x.shift(0, Integer.parseInt(row[1]), 1), -5);
-            Due.due(call, x.shift(0, Integer.parseInt(row[1]), 0), -5);
-            Due.dueSlot(call, x, 0, row[0]);
-            Due.dueSlot(call, x, 1, 77);
+            int n = Integer.parseInt(row[1]);
+            House.isFull("shift of " + row[0] + " by " + n, (x, c) -> x.shift(0, n, c), row[0], "5");
         }
         House.refuses("2^383, one place up", -5, x -> x.shift(House.TWO_TO_383, 1, House.FIVE));
         House.refuses("-1, 1000 places up", -5, x -> x.shift(House.MINUS_ONE, 1000, House.FIVE));

@@ -5,7 +5,7 @@ final class House {
     static final int FIVE = 0, MINUS_SEVEN = 1, NOUGHT = 2, L = 3, MINUS_L = 4, TWO_TO_128 = 5, SIX = 6, THREE = 7,
         TWO_TO_383 = 8, ONE = 9, MINUS_ONE = 10, TWO = 11, MINUS_TWO = 12, TWO_TO_192 = 13, PRIME = 14, TWELVE = 15,
         WRITTEN = 22, ELEVEN = 23;
-    static final int MINUS_FIVE_SEVENTHS = 0, NO_RATIO = 1, L_ABOVE_1 = 2, ONE_ABOVE_L = 3, ONE_ABOVE_1 = 4, HALF = 5,
+    static final int NO_RATIO = 1, L_ABOVE_1 = 2, ONE_ABOVE_L = 3, ONE_ABOVE_1 = 4, HALF = 5,
         MANY_DIGITS = 6, FIVE_TWELFTHS = 7, THREE_ELEVENTHS = 11;
 
     /** One call of an object. */
@@ -107,6 +107,32 @@ final class House {
             WideWholes x = full(tape);
             Due.due(call, x.read(s, base), want);
             dueUnchanged(call, x, lookAtTape(full("")));
+        }
+    }
+
+    /** A call that gives slot 23 something: of slots 0 and on, which hold these, it changes none. */
+    static void gives(String call, long answer, String want, Ask ask, String... slots) {
+        WideWholes x = Due.with(slots);
+        Due.put(x, 23, 77);
+        Due.due(call, ask.of(x), answer);
+        Due.dueSlot(call, x, 23, want);
+        dueSlots(call, x, slots);
+    }
+
+    /** A call that gives slot c something, whatever c: beyond L it gives nothing, and slots 0 and on hold these. */
+    static void isFull(String call, AskAt ask, String... slots) {
+        WideWholes x = Due.with(slots);
+        Due.put(x, 23, 77);
+        for (int c : new int[] {0, 1, 23}) {
+            Due.due(call + " for " + c, ask.of(x, c), Model.FULL);
+        }
+        Due.dueSlot(call, x, 23, 77);
+        dueSlots(call, x, slots);
+    }
+
+    private static void dueSlots(String call, WideWholes x, String... slots) {
+        for (int s = 0; s < slots.length; s++) {
+            Due.dueSlot(call, x, s, slots[s]);
         }
     }
 

@@ -40,6 +40,11 @@ final class RatiosBounds {
                 Due.dueSlot(call, x, 1, row[1]);
             }
         }
+        WideWholes y = Due.with("2^100", "3");
+        Due.due("ratio of slots 0, 1", y.ratio(0, 1, 0), 1);
+        Due.due("slot 0 doubles", y.act(0, 0, 0, 0), 1);
+        Due.due("slot 1 doubles", y.act(0, 1, 1, 1), 1);
+        Due.dueRatio("the RATIO does not", y, 0, "2^100", "3");
         Document.promise(23, "BAD;");
         House.slot("ratio: a", (x, a) -> x.ratio(a, 6, 0));
         House.slot("ratio: b", (x, b) -> x.ratio(6, b, 0));
@@ -141,6 +146,8 @@ final class RatiosBounds {
         refusesFull(0, "1", "2^192", "2^192", "1");
         refusesFull(1, "1", "L", "1", "L-1");
         refusesFull(2, "L", "L-1", "L", "L-1");
+        refusesFull(0, "L", "L-1", "L-1", "L");
+        refusesFull(1, "-L", "L-1", "L-1", "L");
         House.refuses("L + L", -5, x -> x.actRatio(0, House.L_ABOVE_1, House.L_ABOVE_1, House.HALF));
         House.refuses("1/L * 1/L", -5, x -> x.actRatio(2, House.ONE_ABOVE_L, House.ONE_ABOVE_L, House.HALF));
         House.refuses("L by 1/L", -5, x -> x.actRatio(3, House.L_ABOVE_1, House.ONE_ABOVE_L, House.HALF));
@@ -205,6 +212,13 @@ final class RatiosBounds {
             duePart(row[0], row[1], 1, row[1]);
             duePart(row[0], row[1], 2, row[2]);
         }
+        WideWholes x = new WideWholes();
+        Due.putRatio(x, 0, "2^100", "3");
+        Due.due("part 0", x.part(0, 0, 4), 1);
+        Due.due("part 1", x.part(0, 1, 5), 1);
+        Due.due("slot 4 doubles", x.act(0, 4, 4, 4), 1);
+        Due.due("slot 5 doubles", x.act(0, 5, 5, 5), 1);
+        Due.dueRatio("the RATIO does not", x, 0, "2^100", "3");
     }
 
     private static void nearest() {

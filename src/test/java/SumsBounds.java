@@ -28,12 +28,7 @@ final class SumsBounds {
     }
 
     private static void dueAct(int how, String a, String b, String want) {
-        WideWholes x = Due.with(a, b);
-        String call = "act " + how + " of " + a + ", " + b;
-        Due.due(call, x.act(how, 0, 1, 23), 1);
-        Due.dueSlot(call, x, 23, want);
-        Due.dueSlot(call, x, 0, a);
-        Due.dueSlot(call, x, 1, b);
+        House.gives("act " + how + " of " + a + ", " + b, 1, want, x -> x.act(how, 0, 1, 23), a, b);
     }
 
     private static void act() {
@@ -69,16 +64,6 @@ final class SumsBounds {
         House.bounds("act: how", 0, 2, (x, how) -> x.act(how, 6, 7, 0));
     }
 
-    private static void refusesFull(String call, BigInteger a, BigInteger b, int how) {
-        WideWholes x = Due.with(a, b, BigInteger.valueOf(77));
-        Due.due(call, x.act(how, 0, 1, 2), -5);
-        Due.due(call, x.act(how, 0, 1, 0), -5);
-        Due.due(call, x.act(how, 0, 1, 1), -5);
-        Due.dueSlot(call, x, 0, a);
-        Due.dueSlot(call, x, 1, b);
-        Due.dueSlot(call, x, 2, 77);
-    }
-
     private static void actFull() {
         Document.promise(11, "FULL.");
         dueAct(0, "L-1", "1", "L");
@@ -93,43 +78,36 @@ final class SumsBounds {
             {"0", "L", "L"}, {"1", "-L", "L"}, {"2", "2^192", "2^192"}, {"2", "-2^192", "2^192"}, {"2", "2^383", "2"},
             {"2", "L", "-2"}, {"2", "L", "L"}, {"2", "-L", "L"}};
         for (String[] row : beyond) {
-            String call = "act " + row[0] + " of " + row[1] + ", " + row[2];
-            refusesFull(call, Due.whole(row[1]), Due.whole(row[2]), Integer.parseInt(row[0]));
+            int how = Integer.parseInt(row[0]);
+            House.isFull("act " + how + " of " + row[1] + ", " + row[2], (x, c) -> x.act(how, 0, 1, c), row[1], row[2]);
         }
         House.refuses("L + L", -5, x -> x.act(0, House.L, House.L, House.FIVE));
         House.refuses("-L - L", -5, x -> x.act(1, House.MINUS_L, House.L, House.FIVE));
         House.refuses("L * L", -5, x -> x.act(2, House.L, House.L, House.FIVE));
     }
 
-    private static void dueOver(int way, String a, String b, String quotient, String left) {
-        WideWholes x = Due.with(a, b);
-        String call = "over " + way + " of " + a + ", " + b;
-        Due.due(call, x.over(way, 0, 1, 23, 22), 1);
-        Due.dueSlot(call + ": c", x, 23, quotient);
-        Due.dueSlot(call + ": d", x, 22, left);
-    }
-
     private static void over() {
         Document.promise(12, "c is the QUOTIENT of a by b (way 0 .. 2), d what is left over: 1.");
-        String[][] rows = {{"17", "5", "3", "3", "2", "2", "3", "2"}, {"-17", "5", "-3", "-4", "-2", "3", "-4", "3"},
-            {"17", "-5", "-3", "-4", "2", "-3", "-3", "2"}, {"-17", "-5", "3", "3", "-2", "-2", "4", "3"}};
+        // the QUOTIENT and what is left over, of ways 0, 1, 2
+        String[][] rows = {{"17", "5", "3", "2", "3", "2", "3", "2"}, {"-17", "5", "-3", "-2", "-4", "3", "-4", "3"},
+            {"17", "-5", "-3", "2", "-4", "-3", "-3", "2"}, {"-17", "-5", "3", "-2", "3", "-2", "4", "3"}};
         for (String[] row : rows) {
-            dueOver(0, row[0], row[1], row[2], row[4]);
-            dueOver(1, row[0], row[1], row[3], row[5]);
-            dueOver(2, row[0], row[1], row[6], row[7]);
+            for (int way = 0; way <= 2; way++) {
+                TermsBounds.dueQuotient(way, row[0], row[1], row[2 + 2 * way], row[3 + 2 * way]);
+            }
         }
         for (int way = 0; way <= 2; way++) {
-            dueOver(way, "0", "5", "0", "0");
-            dueOver(way, "0", "-L", "0", "0");
-            dueOver(way, "4", "5", "0", "4");
-            dueOver(way, "5", "5", "1", "0");
-            dueOver(way, "-5", "5", "-1", "0");
-            dueOver(way, "L", "1", "L", "0");
-            dueOver(way, "L", "-1", "-L", "0");
-            dueOver(way, "L-1", "L", "0", "L-1");
-            dueOver(way, "2^64", "2^32", "4294967296", "0");
-            dueOver(way, "2^64-1", "4294967296", "4294967295", "4294967295");
-            dueOver(way, LEAST, "-1", "2^63", "0");
+            TermsBounds.dueQuotient(way, "0", "5", "0", "0");
+            TermsBounds.dueQuotient(way, "0", "-L", "0", "0");
+            TermsBounds.dueQuotient(way, "4", "5", "0", "4");
+            TermsBounds.dueQuotient(way, "5", "5", "1", "0");
+            TermsBounds.dueQuotient(way, "-5", "5", "-1", "0");
+            TermsBounds.dueQuotient(way, "L", "1", "L", "0");
+            TermsBounds.dueQuotient(way, "L", "-1", "-L", "0");
+            TermsBounds.dueQuotient(way, "L-1", "L", "0", "L-1");
+            TermsBounds.dueQuotient(way, "2^64", "2^32", "4294967296", "0");
+            TermsBounds.dueQuotient(way, "2^64-1", "4294967296", "4294967295", "4294967295");
+            TermsBounds.dueQuotient(way, LEAST, "-1", "2^63", "0");
         }
     }
 
@@ -178,10 +156,8 @@ final class SumsBounds {
             {"L", "L", "L"}, {"-L", "-L", "L"}, {"-L", "0", "L"}, {"L", "L-1", "1"}, {"L", "2^192-1", "2^192-1"},
             {LEAST, LEAST, "2^63"}, {LEAST, "0", "2^63"}, {"2^383", "-2^200", "2^200"}};
         for (String[] row : rows) {
-            WideWholes x = Due.with(row[0], row[1]);
-            Due.put(x, 23, -9);
-            Due.due("divisor of " + row[0] + ", " + row[1], x.divisor(0, 1, 23), 1);
-            Due.dueSlot("divisor of " + row[0] + ", " + row[1], x, 23, row[2]);
+            String call = "divisor of " + row[0] + ", " + row[1];
+            House.gives(call, 1, row[2], x -> x.divisor(0, 1, 23), row[0], row[1]);
         }
         Document.promise(13, "BAD");
         House.slot("divisor: a", (x, a) -> x.divisor(a, 6, 7));
@@ -190,10 +166,7 @@ final class SumsBounds {
     }
 
     private static void duePower(String a, int n, String want) {
-        WideWholes x = Due.with(a);
-        Due.put(x, 23, 77);
-        Due.due(a + " to the power of " + n, x.power(0, n, 23), 1);
-        Due.dueSlot(a + " to the power of " + n, x, 23, want);
+        House.gives(a + " to the power of " + n, 1, want, x -> x.power(0, n, 23), a);
     }
 
     private static void power() {
@@ -227,26 +200,16 @@ final class SumsBounds {
             {"2^192", "2"}, {"-2^128", "3"}, {"2", "385"}, {"2", "512"}, {"2", "768"}, {"2", "1024"}, {"2", "2000"},
             {"L", "2000"}};
         for (String[] row : beyond) {
-            WideWholes x = Due.with(row[0], "77");
-            String call = row[0] + " to the power of " + row[1];
-            Due.due(call, x.power(0, Integer.parseInt(row[1]), 1), -5);
-            Due.due(call, x.power(0, Integer.parseInt(row[1]), 0), -5);
-            Due.dueSlot(call, x, 0, row[0]);
-            Due.dueSlot(call, x, 1, 77);
+            int n = Integer.parseInt(row[1]);
+            House.isFull(row[0] + " to the power of " + n, (x, c) -> x.power(0, n, c), row[0], "5");
         }
-        WideWholes x = Due.with("2^192-1", "2^128-1");
-        Due.due("(2^192 - 1) to the power of 2", x.power(0, 2, 2), 1);
-        Due.dueSlot("(2^192 - 1) to the power of 2", x, 2, Due.whole("2^192-1").pow(2));
-        Due.due("(2^128 - 1) to the power of 3", x.power(1, 3, 2), 1);
-        Due.dueSlot("(2^128 - 1) to the power of 3", x, 2, Due.whole("2^128-1").pow(3));
-        House.refuses("2 to the power of 384", -5, y -> y.power(House.TWO, 384, House.FIVE));
+        duePower("2^192-1", 2, Due.whole("2^192-1").pow(2).toString());
+        duePower("2^128-1", 3, Due.whole("2^128-1").pow(3).toString());
+        House.refuses("2 to the power of 384", -5, x -> x.power(House.TWO, 384, House.FIVE));
     }
 
     private static void dueRoot(BigInteger a, int n, BigInteger root, int answer) {
-        WideWholes x = Due.with(a);
-        Due.put(x, 23, 77);
-        Due.due("root " + n + " of " + a, x.root(0, n, 23), answer);
-        Due.dueSlot("root " + n + " of " + a, x, 23, root);
+        House.gives("root " + n + " of " + a, answer, root.toString(), x -> x.root(0, n, 23), a.toString());
     }
 
     /** The greatest one whose power of n is within L. */
@@ -294,10 +257,7 @@ final class SumsBounds {
     }
 
     private static void dueRest(String a, int e, String m, String want) {
-        WideWholes x = Due.with(a, m);
-        Due.put(x, 23, 77);
-        Due.due("rest of " + a + ", " + e + ", " + m, x.rest(0, e, 1, 23), 1);
-        Due.dueSlot("rest of " + a + ", " + e + ", " + m, x, 23, want);
+        House.gives("rest of " + a + ", " + e + ", " + m, 1, want, x -> x.rest(0, e, 1, 23), a, m);
     }
 
     private static void rest() {
@@ -354,10 +314,7 @@ final class SumsBounds {
     }
 
     private static void dueInverse(String a, String m, String want) {
-        WideWholes x = Due.with(a, m);
-        Due.put(x, 23, 77);
-        Due.due("inverse of " + a + " by " + m, x.inverse(0, 1, 23), 1);
-        Due.dueSlot("inverse of " + a + " by " + m, x, 23, want);
+        House.gives("inverse of " + a + " by " + m, 1, want, x -> x.inverse(0, 1, 23), a, m);
     }
 
     private static void inverse() {

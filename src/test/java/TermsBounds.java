@@ -40,6 +40,10 @@ final class TermsBounds {
         for (int s = 0; s <= 23; s++) {
             Due.dueSlot("each its own", x, s, 100 + s);
         }
+        x = Due.with("2^100", "0");
+        Due.due("slot 2 is like slot 0", x.act(0, 0, 1, 2), 1);
+        Due.due("slot 0 doubles", x.act(0, 0, 0, 0), 1);
+        Due.dueSlot("slot 2 does not", x, 2, "2^100");
     }
 
     private static void ratios() {
@@ -207,12 +211,10 @@ final class TermsBounds {
         }
     }
 
-    private static void dueQuotient(int way, String a, String b, String quotient, String left) {
-        WideWholes x = Due.with(a, b);
+    static void dueQuotient(int way, String a, String b, String quotient, String left) {
         String call = a + " by " + b + ", way " + way;
-        Due.due(call, x.over(way, 0, 1, 2, 3), 1);
-        Due.dueSlot(call + ", QUOTIENT", x, 2, quotient);
-        Due.dueSlot(call + ", left over", x, 3, left);
+        House.gives(call + ", QUOTIENT", 1, quotient, x -> x.over(way, 0, 1, 23, 22), a, b);
+        House.gives(call + ", left over", 1, left, x -> x.over(way, 0, 1, 22, 23), a, b);
     }
 
     private static void waysOfQuotients() {
