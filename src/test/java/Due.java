@@ -4,8 +4,11 @@ import java.math.BigInteger;
 final class Due {
     static final BigInteger L = BigInteger.ONE.shiftLeft(384).subtract(BigInteger.ONE);
 
+    private static final int MOST_TOLD = 20;
+
     private static int asked = 0;
     private static int wrong = 0;
+    private static int told = 0;
     private static String sentence = "";
 
     private Due() {
@@ -27,14 +30,16 @@ final class Due {
 
     private static void tell(String fault) {
         wrong++;
-        if (wrong <= 100) {
+        told++;
+        if (told <= MOST_TOLD) {
             System.out.println(sentence + fault);
         }
     }
 
-    /** The sentence of the document that the answers from here on are held to: every fault is told with it. */
+    /** The sentence of the document that the answers from here on are held to: its faults are told with it. */
     static void under(String words) {
         sentence = words + "\n    ";
+        told = 0;
     }
 
     static int asked() {
