@@ -11,9 +11,11 @@ final class AllCallsBounds {
 
     static void run() {
         lastCall();
+        narrowAfterWide();
         firstThatFits();
         bad();
         zero();
+        zeroOfAnyCall();
         state();
         none();
         full();
@@ -83,6 +85,85 @@ final class AllCallsBounds {
         dueLast("digit", 3, x -> x.digit(0));
     }
 
+    /** Wide wholes everywhere first: nothing of them may be left where a narrow one comes next. */
+    private static WideWholes afterWide() {
+        WideWholes x = Due.with("L", "-L", "2^128-1", "2^127-1");
+        x.act(2, 0, 1, 4);
+        x.act(0, 0, 1, 5);
+        x.over(1, 1, 3, 6, 7);
+        x.divisor(0, 2, 8);
+        x.power(3, 3, 9);
+        x.root(0, 2, 10);
+        x.rest(1, 1000000, 2, 11);
+        x.inverse(3, 2, 12);
+        x.bits(2, 0, 1, 13);
+        x.shift(1, -1, 14);
+        x.ratio(3, 0, 0);
+        x.ratio(1, 3, 1);
+        x.actRatio(0, 0, 1, 2);
+        x.actRatio(2, 0, 1, 3);
+        x.part(1, 3, 15);
+        x.digits(0, 16);
+        x.write(1, 2);
+        Due.readText(x, 16, "z".repeat(120), 36);
+        return x;
+    }
+
+    private static void dueNarrow(String call, long want, House.Ask ask) {
+        WideWholes x = afterWide();
+        Due.put(x, 0, 7);
+        Due.put(x, 1, 3);
+        Due.due(call + " after wide ones", ask.of(x), 1);
+        Due.dueSlot(call + " after wide ones", x, 4, want);
+        Due.due(call + " after wide ones: limbs", x.limbs(4), 0);
+    }
+
+    private static void narrowAfterWide() {
+        dueNarrow("set", -9, x -> x.set(4, -9));
+        dueNarrow("read", 35, x -> Due.readText(x, 4, "z", 36));
+        dueNarrow("act 0", 10, x -> x.act(0, 0, 1, 4));
+        dueNarrow("act 1", 4, x -> x.act(1, 0, 1, 4));
+        dueNarrow("act 2", 21, x -> x.act(2, 0, 1, 4));
+        dueNarrow("over: QUOTIENT", 2, x -> x.over(0, 0, 1, 4, 5));
+        dueNarrow("over: left over", 1, x -> x.over(0, 0, 1, 5, 4));
+        dueNarrow("divisor", 1, x -> x.divisor(0, 1, 4));
+        dueNarrow("power", 343, x -> x.power(0, 3, 4));
+        dueNarrow("root", 2, x -> x.root(0, 2, 4) + 1);
+        dueNarrow("rest", 2, x -> x.rest(1, 2, 0, 4));
+        dueNarrow("inverse", 5, x -> x.inverse(1, 0, 4));
+        dueNarrow("bits 0", 3, x -> x.bits(0, 0, 1, 4));
+        dueNarrow("bits 2", 4, x -> x.bits(2, 0, 1, 4));
+        dueNarrow("shift up", 14, x -> x.shift(0, 1, 4));
+        dueNarrow("shift down", 3, x -> x.shift(0, -1, 4));
+        dueNarrow("part of a new ratio", 2, x -> x.ratio(0, 1, 0) * x.part(0, 2, 4));
+        for (int base = 2; base <= 36; base++) {
+            digitsAfterWide(base);
+        }
+        WideWholes x = afterWide();
+        Due.putRatio(x, 0, 1, 6);
+        Due.putRatio(x, 1, 1, 3);
+        Due.due("actRatio after wide ones", x.actRatio(0, 0, 1, 2), 1);
+        Due.dueRatio("actRatio after wide ones", x, 2, 1, 2);
+        Due.put(x, 0, -7);
+        Due.due("write after wide ones", x.write(0, 10), 2);
+        Due.due("write after wide ones", Due.outText(x, 2), "-7");
+    }
+
+    private static void digitsAfterWide(int base) {
+        WideWholes x = afterWide();
+        Model m = new Model();
+        m.set(0, 1);
+        for (int q = 2; q <= 12; q++) {
+            String call = "digits of 1/" + q + " in base " + base + " after wide ones";
+            m.set(1, q);
+            m.ratio(0, 1, 0);
+            Due.putRatio(x, 0, 1, q);
+            Due.due(call, x.digits(0, base), m.digits(0, base));
+            Due.due(call + ": HEAD", x.digit(-1), m.digit(-1));
+            Due.due(call + ": ROUND", x.digit(-2), m.digit(-2));
+        }
+    }
+
     /** Each call would be refused twice or more: what the call names first is the answer. */
     private static void firstThatFits() {
         Document.terms("Refusals are answers below 0, the first that fits of these as the call names them");
@@ -143,6 +224,48 @@ final class AllCallsBounds {
         House.refuses("inverse", -2, x -> x.inverse(House.FIVE, House.NOUGHT, House.SIX));
         House.refuses("ratio", -2, x -> x.ratio(House.FIVE, House.NOUGHT, House.HALF));
         House.refuses("actRatio", -2, x -> x.actRatio(3, House.HALF, House.NO_RATIO, House.HALF));
+    }
+
+    /** Slot 4 gets a 0 of the call: there is one 0 alone, and by it nothing goes. */
+    private static void dueNought(String call, House.Ask ask) {
+        WideWholes x = Due.with("L", "-7", "1", "0", "5");
+        Due.putRatio(x, 0, -1, 3);
+        Due.due(call, ask.of(x), 1);
+        Due.dueSlot(call, x, 4, 0);
+        Due.due(call + ": compare", x.compare(4, 20), 1);
+        Due.due(call + ": length", x.length(4), 0);
+        Due.due(call + ": write", x.write(4, 10), 1);
+        Due.due(call + ": root", x.root(4, 2, 5), 1);
+        Due.due(call + ": over by it", x.over(0, 0, 4, 5, 6), -2);
+        Due.due(call + ": rest by it", x.rest(0, 1, 4, 5), -2);
+        Due.due(call + ": inverse by it", x.inverse(0, 4, 5), -2);
+        Due.due(call + ": ratio by it", x.ratio(0, 4, 1), -2);
+        Due.due(call + ": ratio of it", x.ratio(4, 0, 1), 1);
+        Due.due(call + ": actRatio by it", x.actRatio(3, 0, 1, 2), -2);
+    }
+
+    private static void zeroOfAnyCall() {
+        dueNought("set", x -> x.set(4, 0));
+        dueNought("read of -0", x -> Due.readText(x, 4, "-0", 10));
+        dueNought("read of 000", x -> Due.readText(x, 4, "000", 2));
+        dueNought("-7 - -7", x -> x.act(1, 1, 1, 4));
+        dueNought("-7 * 0", x -> x.act(2, 1, 3, 4));
+        dueNought("the QUOTIENT of -7 by L", x -> x.over(0, 1, 0, 4, 5));
+        dueNought("what is left over of -7 by 1", x -> x.over(1, 1, 2, 5, 4));
+        dueNought("divisor of 0, 0", x -> x.divisor(3, 3, 4));
+        dueNought("0 to the power of 3", x -> x.power(3, 3, 4));
+        dueNought("root 9 of 0", x -> x.root(3, 9, 4));
+        dueNought("rest of -7 by 1", x -> x.rest(1, 3, 2, 4));
+        dueNought("inverse of -7 by 1", x -> x.inverse(1, 2, 4));
+        dueNought("-7 and 0", x -> x.bits(0, 1, 3, 4));
+        dueNought("-7 xor -7", x -> x.bits(2, 1, 1, 4));
+        dueNought("-7 and not -7", x -> x.bits(3, 1, 1, 4));
+        dueNought("1, one place down", x -> x.shift(2, -1, 4));
+        dueNought("L, 1000 places down", x -> x.shift(0, -1000, 4));
+        dueNought("0, 1000 places down", x -> x.shift(3, -1000, 4));
+        dueNought("0, 1000 places up", x -> x.shift(3, 1000, 4));
+        dueNought("the nearest of -1/3", x -> x.part(0, 3, 4));
+        dueNought("above in 0 above 1", x -> x.part(11, 0, 4));
     }
 
     private static void state() {

@@ -255,6 +255,26 @@ final class TermsBounds {
                 }
             }
         }
+        rareTurns();
+    }
+
+    /** In base 16: with these a long division's guess at a part of the QUOTIENT is too high, by 1 or by 2. */
+    private static void rareTurns() {
+        String[][] rows = {{"80000000fffffffe00000000", "80000000fffffffe"},
+            {"80000000ffffffff00000000", "80000000fffffffe"},
+            {"7fffffff0000000000000000", "80000000fffffffe"},
+            {"fffffffe0000000000000000", "80000000ffffffff"},
+            {"80000000000000000000000000000000", "3fffffffe00000001"},
+            {"3000000010000000000000000", "10000000100000001"},
+            {"3000000010000000000000000", "17fffffff00000001"},
+            {"1000000000000000000000000", "10000000000000001"},
+            {"1000000000000000000000000", "800000000000000000000001"}};
+        for (String[] row : rows) {
+            BigInteger a = new BigInteger(row[0], 16);
+            BigInteger b = new BigInteger(row[1], 16);
+            dueQuotient(0, a.toString(), b.toString(), a.divide(b).toString(), a.mod(b).toString());
+            dueQuotient(0, a.negate().toString(), b.toString(), a.divide(b).negate().toString(), a.mod(b).negate().toString());
+        }
     }
 
     private static void bits() {
