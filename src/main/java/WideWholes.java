@@ -25,6 +25,7 @@ public final class WideWholes {
 
     private static final int PART_BITS = 32;
     private static final long MASK = 4294967295L;
+    private static final long LEAST_LONG = -9223372036854775808L;
     private static final int LIMIT_BITS = 384;
     private static final int LIMIT = LIMIT_BITS / PART_BITS;
     /** The longest on the way is a sum of two products: one part more than twice the limit. */
@@ -453,7 +454,7 @@ public final class WideWholes {
                 return false;
             }
             long magnitude = partAt(1) << PART_BITS | partAt(0);
-            return magnitude >= 0 || below && magnitude == Long.MIN_VALUE;
+            return magnitude >= 0 || below && magnitude == LEAST_LONG;
         }
 
         long partAt(int k) {
@@ -678,7 +679,8 @@ public final class WideWholes {
             divideSizes(a, b);
             quotient.takeSign(a.below != b.below);
             left.takeSign(a.below);
-            boolean lower = way == 1 && !left.isZero() && left.below != b.below || way == 2 && left.below && !b.below;
+            boolean unlike = !left.isZero() && left.below != b.below;
+            boolean lower = way == 1 && unlike || way == 2 && left.below && !b.below;
             boolean higher = way == 2 && left.below && b.below;
             if (lower) {
                 Whole.difference(quotient, one, quotient);
@@ -733,8 +735,8 @@ public final class WideWholes {
             long r = high - q * highest;
             for (int step = 0; step < 2 && r <= MASK; step++) {
                 // adding the least long to both compares them as if without a sign
-                long reached = q * next + Long.MIN_VALUE;
-                long there = (r << PART_BITS | dividend[j + count - 2]) + Long.MIN_VALUE;
+                long reached = q * next + LEAST_LONG;
+                long there = (r << PART_BITS | dividend[j + count - 2]) + LEAST_LONG;
                 if (q <= MASK && reached <= there) {
                     break;
                 }

@@ -1,7 +1,10 @@
+import java.io.IOException;
 import java.lang.reflect.Constructor;
 import java.lang.reflect.Field;
 import java.lang.reflect.Method;
 import java.lang.reflect.Modifier;
+import java.nio.file.Files;
+import java.nio.file.Path;
 import java.util.Arrays;
 import java.util.Set;
 import java.util.TreeSet;
@@ -18,12 +21,50 @@ public final class FaceTest {
     private static final String[] CONSTANTS = {"BAD", "ZERO", "STATE", "NONE", "FULL", "WRONG"};
     private static final int[] VALUES = {-1, -2, -3, -4, -5, -10};
 
-    public static void main(String[] args) throws ReflectiveOperationException {
+    public static void main(String[] args) throws IOException, ReflectiveOperationException {
+        asWritten();
         theClass();
         methods();
         fields();
         inside();
         Due.end();
+    }
+
+    /** The lines of the document's face stand in the source in their order, each group behind its heading. */
+    private static void asWritten() throws IOException {
+        String document = Files.readString(Path.of("..", "shared", "DOC.md"));
+        String source = Files.readString(Path.of("src", "main", "java", "WideWholes.java"));
+        int start = document.indexOf("```java\n");
+        int end = document.indexOf("```", start + 3);
+        Due.due("the document has a face", start >= 0 && end > start, true);
+        int at = 0;
+        int calls = 0;
+        for (String line : document.substring(start, end).split("\n")) {
+            if (line.trim().startsWith("public ")) {
+                at = placeBehind(source, headingAhead(document, line), at);
+                at = placeBehind(source, line.contains("=") ? line : line.replace(";", " {"), at);
+                calls++;
+            }
+        }
+        Due.due("the class, its constants, its constructor and its calls", calls, 3 + METHODS.length);
+    }
+
+    /** The heading of the group that begins with this line; nothing, if none does. */
+    private static String headingAhead(String document, String line) {
+        String name = line.replaceFirst("\\(.*", "").replaceFirst(".* ", "");
+        String words = "Ahead of the calls `" + name + "`";
+        int from = document.indexOf(words);
+        if (from < 0) {
+            return "";
+        }
+        String sentence = document.substring(from, document.indexOf('\n', from));
+        return sentence.replaceFirst(".* the interface says: ", "// ").replaceFirst("\\.$", "");
+    }
+
+    private static int placeBehind(String source, String words, int from) {
+        int at = source.indexOf(words, from);
+        Due.due("stands in its place: " + words, at >= 0, true);
+        return at < 0 ? from : at + words.length();
     }
 
     private static void theClass() {
